@@ -5,6 +5,7 @@ public final class PlanTest {
         parts();
         arches();
         bearing();
+        bearingHighNumbers();
         bearingAnArch();
         editing();
         editionsAreFull();
@@ -87,7 +88,7 @@ public final class PlanTest {
             {5, Integer.MAX_VALUE, -1, -1, -1}, {5, 99, -1, -1, -1}, {5, -88, -1, -1, -1}};
         String before = Check.all(x);
         for (int[] b : bad) {
-            Check.due("4: bear of bad numbers, " + b[0] + ", " + b[1] + " ..", x.bear(b[0], b[1], b[2], b[3], b[4]), -1);
+            Check.due("4: bear(" + b[0] + ", " + b[1] + " ..)", x.bear(b[0], b[1], b[2], b[3], b[4]), -1);
         }
         Check.dueSame("4: bear that is BAD", x, before);
         Check.due("4: four supports", x.bear(5, 303, 1, 207, 101), 4);
@@ -109,6 +110,29 @@ public final class PlanTest {
         Check.due("4: BEGUN", x.bear(5, 12, -1, -1, -1), -2);
         Check.due("4: BEGUN, but BAD first", x.bear(5, 11, -1, -1, -1), -1);
         Check.dueSame("4: bear of a begun part", x, before);
+    }
+
+    private static void bearingHighNumbers() {
+        ChurchLodge x = new ChurchLodge();
+        for (int i = 0; i < 40; i++) {
+            x.part(1, 1, 0);
+        }
+        Check.due("4: the last but one", x.bear(39, 3801, 3711, -1, -1), 2);
+        Check.due("21: support(39, 0)", x.support(39, 0), 3801);
+        Check.due("21: support(39, 1)", x.support(39, 1), 3711);
+        Check.due("20: about(38, 10)", x.about(38, 10), 1);
+        Check.due("4: itself", x.bear(39, 3901, 3711, -1, -1), -1);
+        Check.due("4: itself", x.bear(38, 3801, 3711, -1, -1), -1);
+        Check.due("4: one that isn't", x.bear(39, 4001, 3711, -1, -1), -1);
+        Check.due("4: two are one", x.bear(39, 3801, 3711, -1, -1), 2);
+        Check.due("4: two are one", x.bear(39, 3801, 3811, -1, -1), -1);
+        Check.due("4: two are one, the last", x.bear(39, 3801, 201, 103, 207), -1);
+        for (int p = 40; p < 42; p++) {
+            Check.due("20: about(" + p + ", 0)", x.about(p, 0), -1);
+            Check.due("8: lay(" + p + ")", x.lay(p), -1);
+            Check.due("26: needs(" + p + ")", x.needs(p), -1);
+            Check.due("6: wanted(0, " + p + ")", x.wanted(0, p), -1);
+        }
     }
 
     private static void bearingAnArch() {

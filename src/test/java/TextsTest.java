@@ -7,6 +7,7 @@ public final class TextsTest {
         faults();
         faultsOfDepth();
         everyByte();
+        oldBytes();
         values();
         names();
         ends();
@@ -73,6 +74,10 @@ public final class TextsTest {
         Check.due("17: BAD before FULL", x.gift(0), -1);
         Check.due("17: FULL leaves the tape", x.count(9), 2);
         Check.due("17: count(1)", x.count(1), 30);
+        Check.due("22: left(29, 0)", x.left(29, 0), 1000000);
+        Check.due("22: left(30, 0)", x.left(30, 0), -1);
+        x.part(1, 1, 0);
+        Check.due("19: end(30, 0)", x.end(30, 0), -2000000000);
     }
 
     private static void fault(String text, int want) {
@@ -140,6 +145,13 @@ public final class TextsTest {
             + "!".repeat(18) + "1" + "!".repeat(19) + "1";
         Check.due("17: the length of the longest text", most.length(), 100);
         fault(most, -1);
+        String onlySigns = "+++++" + "!".repeat(15) + "1" + "!".repeat(15) + "1" + "!".repeat(16) + "1"
+            + "!".repeat(17) + "1" + "!".repeat(18) + "1" + "!".repeat(8) + "1";
+        Check.due("17: the length of the text with most signs", onlySigns.length(), 100);
+        fault(onlySigns, -1);
+        fault(onlySigns.substring(0, 99) + "!", 100);
+        fault(onlySigns.substring(0, 97) + "#12", 100);
+        fault(onlySigns.substring(0, 98) + "1p", 99);
         fault(most.substring(0, 99) + "!", 99);
         fault(most.substring(0, 98) + "!p", -1);
         fault(most.substring(0, 94) + "++12+", 99);
@@ -155,6 +167,18 @@ public final class TextsTest {
             boolean whole = opens && "#!+-*<=>&|".indexOf(b) < 0;
             Check.due("17: the byte " + b, x.gift(1), whole ? 0 : opens ? -101 : -100);
         }
+    }
+
+    /** What an earlier text left behind the end of the tape is no part of a later one. */
+    private static void oldBytes() {
+        ChurchLodge x = new ChurchLodge();
+        Check.due("17: a text", Check.gift(x, 1, "#123 "), 0);
+        Check.due("17: its blank is gone", Check.gift(x, 1, "#321"), -104);
+        Check.due("17: its digits are gone", Check.gift(x, 1, "#1"), -102);
+        Check.due("17: a text", Check.gift(x, 1, "+12"), 1);
+        Check.due("17: its last E is gone", Check.gift(x, 1, "+1"), -102);
+        Check.due("18: its last E is gone", Check.statute(x, 0, "+1"), -102);
+        Check.due("17: open signs are gone", Check.gift(x, 1, "p"), 2);
     }
 
     private static void value(String text, int want) {

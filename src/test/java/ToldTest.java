@@ -2,6 +2,7 @@
 public final class ToldTest {
     public static void main(String[] args) {
         about();
+        aboutAfterQuestions();
         supports();
         left();
         asItWas();
@@ -44,6 +45,34 @@ public final class ToldTest {
         Check.due("20: about(0, -1)", x.about(0, -1), -1);
         Check.due("20: about(4, 0)", x.about(4, 0), -1);
         Check.due("20: about(-1, 0)", x.about(-1, 0), -1);
+    }
+
+    /** What falls() and may() try out is gone when the load is asked. */
+    private static void aboutAfterQuestions() {
+        ChurchLodge x = new ChurchLodge();
+        x.part(1, 50, 0);
+        x.part(1, 50, 0);
+        x.arch(1, 2, 0, 1, 0);
+        x.part(2, 12, 0);
+        x.bear(3, 212, -1, -1, -1);
+        x.tell(2, 3, 0);
+        for (int i = 0; i < 3; i++) {
+            Check.layAll(x, i);
+        }
+        Check.due("11: strike(2)", x.strike(2), 1);
+        x.falls(3);
+        Check.due("20: LOAD", x.about(2, 3), 2);
+        x.falls(3);
+        Check.due("20: NET", x.about(0, 6), 1);
+        x.falls(3);
+        Check.due("20: the least NET to the right", x.about(0, 7), 1);
+        Check.due("20: and to the left", x.about(1, 7), 0);
+        x.may(3);
+        Check.due("20: LOAD", x.about(3, 3), 0);
+        x.lay(3);
+        x.falls(3);
+        Check.due("20: LOAD", x.about(3, 3), 12);
+        Check.due("20: NET", x.about(1, 6), 7);
     }
 
     private static void supports() {
@@ -133,7 +162,14 @@ public final class ToldTest {
             }
         }
         Check.due("25: by the share", x.down(3), 1);
-        Check.due("25: down(5)", x.down(5), -1);
+        x.part(6, 12, 0);
+        Check.due("4: three supports", x.bear(5, 1, 101, 210, -1), 3);
+        Check.due("25: all to the first as long as nothing lies", x.down(5), 0);
+        Check.due("4: two supports", x.bear(5, 6, 106, -1, -1), 2);
+        x.month(1);
+        Check.due("8: lay(5)", x.lay(5), 1);
+        Check.due("25: the third one isn't any more", x.down(5), 0);
+        Check.due("25: down(6)", x.down(6), -1);
         Check.due("25: down(-1)", x.down(-1), -1);
     }
 
