@@ -16,7 +16,7 @@ public final class PlanTest {
     }
 
     private static void newObject() {
-        ChurchLodge x = new ChurchLodge();
+        Lodge x = new Lodge();
         for (int what = 0; what <= 9; what++) {
             Check.due("1: count(" + what + ")", x.count(what), 0);
         }
@@ -25,13 +25,13 @@ public final class PlanTest {
         Check.due("1: left(0, 0)", x.left(0, 0), -1);
         Check.due("1: wanted(0, 0)", x.wanted(0, 0), -1);
         Check.due("1: frost(0)", x.frost(0), 0);
-        ChurchLodge y = new ChurchLodge();
+        Lodge y = new Lodge();
         y.part(1, 1, 1);
         Check.due("1: objects are apart", x.count(0), 0);
     }
 
     private static void parts() {
-        ChurchLodge x = new ChurchLodge();
+        Lodge x = new Lodge();
         int[][] bad = {{0, 1, 1}, {31, 1, 1}, {1, 0, 1}, {1, 1000, 1}, {1, 1, -1}, {1, 1, 1000},
             {Integer.MIN_VALUE, 1, 1}, {1, Integer.MAX_VALUE, 1}, {-1, -1, -1}};
         for (int[] b : bad) {
@@ -56,7 +56,7 @@ public final class PlanTest {
     }
 
     private static void arches() {
-        ChurchLodge x = new ChurchLodge();
+        Lodge x = new Lodge();
         x.part(1, 1, 0);
         x.part(1, 1, 0);
         int[][] bad = {{0, 1, 1, 0, 1}, {31, 1, 1, 0, 1}, {1, 0, 1, 0, 1}, {1, 1000, 1, 0, 1},
@@ -76,7 +76,7 @@ public final class PlanTest {
     }
 
     private static void bearing() {
-        ChurchLodge x = new ChurchLodge();
+        Lodge x = new Lodge();
         for (int i = 0; i < 6; i++) {
             x.part(2, 12, 0);
         }
@@ -86,7 +86,7 @@ public final class PlanTest {
             {5, 6, 107, -1, -1}, {5, 6, 103, 3, -1}, {5, 11, -1, -1, -1}, {0, 12, -1, -1, -1},
             {3, 412, -1, -1, -1}, {3, 312, -1, -1, -1}, {5, Integer.MIN_VALUE, -1, -1, -1},
             {5, Integer.MAX_VALUE, -1, -1, -1}, {5, 99, -1, -1, -1}, {5, -88, -1, -1, -1}};
-        String before = Check.all(x);
+        String before = x.state();
         for (int[] b : bad) {
             Check.due("4: bear(" + b[0] + ", " + b[1] + " ..)", x.bear(b[0], b[1], b[2], b[3], b[4]), -1);
         }
@@ -106,14 +106,14 @@ public final class PlanTest {
         Check.due("4: the same again is an edition too", x.bear(5, -1, -1, -1, -1), 0);
         Check.due("4: editions", x.count(3), 4);
         x.lay(5);
-        before = Check.all(x);
+        before = x.state();
         Check.due("4: BEGUN", x.bear(5, 12, -1, -1, -1), -2);
         Check.due("4: BEGUN, but BAD first", x.bear(5, 11, -1, -1, -1), -1);
         Check.dueSame("4: bear of a begun part", x, before);
     }
 
     private static void bearingHighNumbers() {
-        ChurchLodge x = new ChurchLodge();
+        Lodge x = new Lodge();
         for (int i = 0; i < 40; i++) {
             x.part(1, 1, 0);
         }
@@ -136,7 +136,7 @@ public final class PlanTest {
     }
 
     private static void bearingAnArch() {
-        ChurchLodge x = new ChurchLodge();
+        Lodge x = new Lodge();
         for (int i = 0; i < 4; i++) {
             x.part(1, 10, 0);
         }
@@ -161,7 +161,7 @@ public final class PlanTest {
     }
 
     private static void editing() {
-        ChurchLodge x = new ChurchLodge();
+        Lodge x = new Lodge();
         x.part(5, 1, 0);
         int[][] bad = {{1, 5}, {-1, 5}, {0, 0}, {0, 31}, {0, -1}};
         for (int[] b : bad) {
@@ -179,7 +179,7 @@ public final class PlanTest {
     }
 
     private static void editionsAreFull() {
-        ChurchLodge x = new ChurchLodge();
+        Lodge x = new Lodge();
         x.part(5, 1, 0);
         x.part(5, 1, 0);
         x.part(5, 1, 0);
@@ -188,7 +188,7 @@ public final class PlanTest {
             Check.due("5: edition " + i, x.edit(0, 1 + i % 30), i);
         }
         Check.due("4: the last edition", x.bear(1, 12, -1, -1, -1), 1);
-        String before = Check.all(x);
+        String before = x.state();
         Check.due("5: edit when full", x.edit(0, 7), -3);
         Check.due("4: bear when full", x.bear(1, -1, -1, -1, -1), -3);
         Check.due("5: BAD before FULL", x.edit(0, 31), -1);
@@ -204,7 +204,7 @@ public final class PlanTest {
     }
 
     private static void editions() {
-        ChurchLodge x = new ChurchLodge();
+        Lodge x = new Lodge();
         x.part(4, 1, 0);
         x.part(6, 1, 0);
         x.edit(0, 9);
@@ -225,7 +225,7 @@ public final class PlanTest {
     }
 
     private static void telling() {
-        ChurchLodge x = new ChurchLodge();
+        Lodge x = new Lodge();
         x.part(1, 1, 0);
         x.part(1, 1, 0);
         x.arch(1, 1, 0, 0, 1);
@@ -249,7 +249,7 @@ public final class PlanTest {
     }
 
     private static void tellingWouldFall() {
-        ChurchLodge x = new ChurchLodge();
+        Lodge x = new Lodge();
         x.part(1, 100, 0);
         x.part(1, 100, 0);
         x.arch(1, 100, 0, 0, 1);
@@ -272,7 +272,7 @@ public final class PlanTest {
         Check.due("7: HOLDS one too little", x.strike(2), -15);
         Check.due("7: HOLDS was", x.tell(1, 1, 13), 12);
         Check.due("7: HOLDS enough", x.strike(2), 1);
-        String before = Check.all(x);
+        String before = x.state();
         Check.due("7: HOLDS less", x.tell(1, 1, 12), -15);
         Check.due("7: THRUST more", x.tell(2, 2, 51), -15);
         Check.dueSame("7: tell that is refused", x, before);

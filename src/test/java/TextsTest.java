@@ -17,7 +17,7 @@ public final class TextsTest {
     }
 
     private static void feeding() {
-        ChurchLodge x = new ChurchLodge();
+        Lodge x = new Lodge();
         Check.due("16: feed(0, 0)", x.feed(0, 0), -1);
         Check.due("16: feed(5, 0)", x.feed(5, 0), -1);
         Check.due("16: feed(-1, 0)", x.feed(-1, 0), -1);
@@ -41,7 +41,7 @@ public final class TextsTest {
     }
 
     private static void gifts() {
-        ChurchLodge x = new ChurchLodge();
+        Lodge x = new Lodge();
         Check.due("17: gift(0)", x.gift(0), -1);
         Check.due("17: gift(-5)", x.gift(-5), -1);
         Check.due("17: gift(1000001)", x.gift(1000001), -1);
@@ -64,7 +64,7 @@ public final class TextsTest {
     }
 
     private static void giftsAreFull() {
-        ChurchLodge x = new ChurchLodge();
+        Lodge x = new Lodge();
         for (int i = 0; i < 30; i++) {
             Check.due("17: gift " + i, x.gift(1000000), i);
         }
@@ -81,7 +81,7 @@ public final class TextsTest {
     }
 
     private static void fault(String text, int want) {
-        ChurchLodge x = new ChurchLodge();
+        Lodge x = new Lodge();
         int due = want < 0 ? 0 : -100 - want;
         Check.due("17: gift with '" + text + "'", Check.gift(x, 1, text), due);
         if (!text.isEmpty()) {
@@ -161,7 +161,7 @@ public final class TextsTest {
     private static void everyByte() {
         String first = "0123456789#pknwmyfd!+-*<=>&|";
         for (int b = 0; b < 256; b++) {
-            ChurchLodge x = new ChurchLodge();
+            Lodge x = new Lodge();
             x.feed(1, b);
             boolean opens = first.indexOf(b) >= 0;
             boolean whole = opens && "#!+-*<=>&|".indexOf(b) < 0;
@@ -171,7 +171,7 @@ public final class TextsTest {
 
     /** What an earlier text left behind the end of the tape is no part of a later one. */
     private static void oldBytes() {
-        ChurchLodge x = new ChurchLodge();
+        Lodge x = new Lodge();
         Check.due("17: a text", Check.gift(x, 1, "#123 "), 0);
         Check.due("17: its blank is gone", Check.gift(x, 1, "#321"), -104);
         Check.due("17: its digits are gone", Check.gift(x, 1, "#1"), -102);
@@ -182,7 +182,7 @@ public final class TextsTest {
     }
 
     private static void value(String text, int want) {
-        ChurchLodge x = new ChurchLodge();
+        Lodge x = new Lodge();
         x.part(1, 1, 0);
         Check.due("17: '" + text + "'", Check.gift(x, 1, text), 0);
         Check.due("19: what '" + text + "' says", x.end(0, 0), want);
@@ -239,7 +239,7 @@ public final class TextsTest {
     }
 
     private static void names() {
-        ChurchLodge x = new ChurchLodge();
+        Lodge x = new Lodge();
         x.part(3, 1, 0);
         x.part(4, 1, 0);
         x.arch(5, 1, 0, 0, 1);
@@ -275,7 +275,7 @@ public final class TextsTest {
     }
 
     private static void ends() {
-        ChurchLodge x = new ChurchLodge();
+        Lodge x = new Lodge();
         Check.due("19: none such", x.end(0, 0), -2000000000);
         x.gift(1);
         Check.due("19: no such part", x.end(0, 0), -2000000000);
@@ -291,7 +291,7 @@ public final class TextsTest {
     }
 
     private static void statutes() {
-        ChurchLodge x = new ChurchLodge();
+        Lodge x = new Lodge();
         Check.due("18: an empty tape", x.statute(0), -100);
         Check.due("18: from -1", Check.statute(x, -1, "5"), -1);
         Check.due("18: BAD leaves the tape", x.count(9), 1);
@@ -323,7 +323,7 @@ public final class TextsTest {
     }
 
     private static void statutesAreFull() {
-        ChurchLodge x = new ChurchLodge();
+        Lodge x = new Lodge();
         for (int i = 1; i <= 20; i++) {
             Check.due("18: statute " + i, Check.statute(x, 0, "5"), i);
         }

@@ -14,7 +14,7 @@ public final class ToldTest {
     }
 
     private static void about() {
-        ChurchLodge x = new ChurchLodge();
+        Lodge x = new Lodge();
         x.part(2, 100, 1);
         x.part(2, 90, 2);
         x.arch(2, 51, 3, 0, 1);
@@ -49,7 +49,7 @@ public final class ToldTest {
 
     /** What falls() and may() try out is gone when the load is asked. */
     private static void aboutAfterQuestions() {
-        ChurchLodge x = new ChurchLodge();
+        Lodge x = new Lodge();
         x.part(1, 50, 0);
         x.part(1, 50, 0);
         x.arch(1, 2, 0, 1, 0);
@@ -76,7 +76,7 @@ public final class ToldTest {
     }
 
     private static void supports() {
-        ChurchLodge x = new ChurchLodge();
+        Lodge x = new Lodge();
         x.part(1, 1, 0);
         x.part(1, 1, 0);
         x.part(1, 1, 0);
@@ -92,7 +92,7 @@ public final class ToldTest {
     }
 
     private static void left() {
-        ChurchLodge x = new ChurchLodge();
+        Lodge x = new Lodge();
         x.gift(100);
         x.part(2, 1, 30);
         x.lay(0);
@@ -105,7 +105,7 @@ public final class ToldTest {
     }
 
     private static void asItWas() {
-        ChurchLodge x = new ChurchLodge();
+        Lodge x = new Lodge();
         x.part(6, 1, 0);
         Check.due("24: as(0, 0)", x.as(0, 0), 0);
         x.lay(0);
@@ -131,7 +131,7 @@ public final class ToldTest {
     }
 
     private static void down() {
-        ChurchLodge x = new ChurchLodge();
+        Lodge x = new Lodge();
         for (int i = 0; i < 3; i++) {
             x.part(1, 1, 0);
         }
@@ -174,7 +174,7 @@ public final class ToldTest {
     }
 
     private static void needs() {
-        ChurchLodge x = new ChurchLodge();
+        Lodge x = new Lodge();
         x.part(3, 1, 0);
         x.part(5, 1, 0);
         x.arch(2, 1, 0, 0, 1);
@@ -200,7 +200,7 @@ public final class ToldTest {
     }
 
     private static void counts() {
-        ChurchLodge x = new ChurchLodge();
+        Lodge x = new Lodge();
         x.part(3, 1, 5);
         x.part(3, 1, 7);
         x.edit(0, 4);
@@ -223,7 +223,7 @@ public final class ToldTest {
 
     /** The heaviest church: what lies on the lowest part is far from where an int would wrap. */
     private static void greatest() {
-        ChurchLodge x = new ChurchLodge();
+        Lodge x = new Lodge();
         Check.statute(x, 0, "#99999 ");
         for (int i = 0; i < 17; i++) {
             x.part(30, 999, 0);
