@@ -549,9 +549,12 @@ public final class ChurchLodge {
             return kind == ARCH && isBegun() && !struck;
         }
 
+        /** Looks at the part's number here, as it is an index wherever the supports are walked. */
         void standOn(int i, int part, int share) {
-            supports[i] = part;
-            shares[i] = share;
+            if (i >= 0 && i < MOST_SUPPORTS && part >= 0 && part < MOST_PARTS) {
+                supports[i] = part;
+                shares[i] = share;
+            }
         }
 
         void takeCourse(int month) {

@@ -10,6 +10,7 @@ public final class EdgesOfBuildingTest {
         tenWithoutAStatute();
         lessThanPrice();
         firstOneFirst();
+        endsAreAskedAhead();
         wholeAheadOfAll();
         supportsAheadOfTheRest();
         workAheadOfCoinsAndFalling();
@@ -186,6 +187,34 @@ public final class EdgesOfBuildingTest {
             }
         }
         Check.unchanged(x, "8: 6 are less than 10", -14, l -> l.lay(0));
+    }
+
+    /** "(The ends are asked ahead of the course.)": with what each name means just before it. */
+    private static void endsAreAskedAhead() {
+        String[] texts = {"=n1", "=d1", "=m1", "f", "y"};
+        for (String text : texts) {
+            Lodge x = new Lodge();
+            x.part(3, 1, 1);
+            Check.gift(x, 1, text);
+            Check.due("9: '" + text + "' doesn't hold yet", x.may(0), 4);
+            Check.gift(x, 1, "=n0");
+            Check.due("8: by the other one", x.lay(0), 1);
+            Check.due("22: of '" + text + "' nothing", x.left(0, 0), 1);
+            if ("=m1".equals(text)) {
+                Check.due("9: not in month 0", x.may(0), 4);
+                x.month(1);
+            } else if ("f".equals(text)) {
+                Check.due("9: not without frost", x.may(0), 4);
+                x.bitter(0);
+            } else if ("y".equals(text)) {
+                x.month(11);
+                Check.due("9: not in month 11", x.may(0), 4);
+                x.month(1);
+            }
+            Check.due("9: '" + text + "' holds", x.may(0), 0);
+            Check.due("8: '" + text + "' holds", x.lay(0), 2);
+            Check.due("22: all of '" + text + "'", x.left(0, 0), 0);
+        }
     }
 
     /** 1 ahead of 3, 4 and 5. (With 2 it can't be: what is WHOLE stands on what is.) */
@@ -615,6 +644,10 @@ public final class EdgesOfBuildingTest {
         Check.unchanged(x, "15: it was", 0, l -> l.bitter(0));
         Check.due("15: the last", x.bitter(1200), 1);
         Check.unchanged(x, "15: it was", 0, l -> l.bitter(1200));
+        x.frost(4095);
+        Check.due("15: a month with frost of all years wasn't bitter", x.bitter(30), 1);
+        Check.unchanged(x, "15: it was", 0, l -> l.bitter(30));
+        x.frost(0);
         x.lay(0);
         x.month(5);
         Check.due("20: AGE", x.about(0, 4), 4);

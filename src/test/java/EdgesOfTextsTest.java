@@ -117,6 +117,8 @@ public final class EdgesOfTextsTest {
         Check.due("17: the 30th", Check.gift(x, 1000000, "#77 "), 29);
         Check.due("22: left(29, 0)", x.left(29, 0), 1000000);
         Check.due("19: end(29, 0)", x.end(29, 0), 77);
+        Check.due("22: left(30, 0)", x.left(30, 0), -1);
+        Check.due("19: end(30, 0)", x.end(30, 0), NO_END);
         Check.unchanged(x, "17: the 31st", -3, l -> l.gift(1));
         Check.unchanged(x, "17: BAD ahead of FULL", -1, l -> l.gift(1000001));
         Check.feed(x, "+1");
@@ -412,6 +414,9 @@ public final class EdgesOfTextsTest {
         fault("+" + but99.substring(0, 96) + "00 ", 99);
         fault("+" + but99.substring(0, 96) + "!00", -1);
         fault("+" + but99.substring(0, 96) + "#00", 100);
+        String signsAlone = "+".repeat(5) + ("!".repeat(15) + "0").repeat(5) + "!".repeat(14) + "0";
+        Check.due("the bytes of a text of signs and digits alone", signsAlone.length(), 100);
+        value(signsAlone, 5);
         Lodge x = oneWall();
         Check.gift(x, 1, but99 + "0");
         Check.unchanged(x, "18: the tape was emptied of all 100", -100, l -> l.statute(0));

@@ -487,5 +487,11 @@ public final class EdgesOfToldTest {
             }
         }
         Check.dueSame("9, 10, 19 to 27: what asks", x, before);
+        // 27 lie on the arch and 34 on its left pier: what falls() tries is gone when these are asked
+        int[][] loads = {{3, 34}, {6, 13}, {7, 0}};
+        for (int[] l : loads) {
+            x.falls(3);
+            Check.due("20: about(0, " + l[0] + ") behind falls(3)", x.about(0, l[0]), l[1]);
+        }
     }
 }
