@@ -25,14 +25,38 @@ public final class FaceTest {
             if (Modifier.isPublic(m.getModifiers())) {
                 found.add(m.getName() + "/" + m.getParameterCount());
                 Check.dueTrue(m.getName() + " answers an int", m.getReturnType() == int.class);
+                Check.dueTrue(m.getName() + " is an object's", !Modifier.isStatic(m.getModifiers()));
+                for (Class<?> type : m.getParameterTypes()) {
+                    Check.dueTrue(m.getName() + " takes ints", type == int.class);
+                }
             } else {
                 Check.dueTrue(m.getName() + " is private", Modifier.isPrivate(m.getModifiers()));
+                dueNoNameOfTheFace(m);
             }
         }
         Collections.sort(found);
         Check.dueTrue("the public methods: " + found, found.equals(List.of(FACE)));
         Check.due("constructors", ChurchLodge.class.getDeclaredConstructors().length, 1);
+        Check.due("public constructors without arguments", publicConstructors(), 1);
         Check.dueTrue("the class is final", Modifier.isFinal(ChurchLodge.class.getModifiers()));
+        Check.dueTrue("the class is public", Modifier.isPublic(ChurchLodge.class.getModifiers()));
+        Check.dueTrue("the class has no package", ChurchLodge.class.getPackageName().isEmpty());
+    }
+
+    private static int publicConstructors() {
+        int found = 0;
+        for (var c : ChurchLodge.class.getConstructors()) {
+            found += c.getParameterCount() == 0 ? 1 : 0;
+        }
+        return found;
+    }
+
+    /** Rule 1; and rule 11, of a method's parameters. */
+    private static void dueNoNameOfTheFace(Method m) {
+        for (String face : FACE) {
+            Check.dueTrue(m.getName() + " isn't a name of the face", !face.startsWith(m.getName() + "/"));
+        }
+        Check.dueTrue(m.getName() + " takes at most seven", m.getParameterCount() <= 7);
     }
 
     private static void fieldsAndClasses() {
@@ -50,11 +74,12 @@ public final class FaceTest {
         Class<?>[] inside = ChurchLodge.class.getDeclaredClasses();
         Check.dueTrue("at most twelve classes", inside.length <= 11);
         for (Class<?> c : inside) {
-            Check.dueTrue(c.getName() + " is static", Modifier.isStatic(c.getModifiers()));
+            int seen = c.getModifiers();
+            Check.dueTrue(c.getName() + " is static", Modifier.isStatic(seen));
+            Check.dueTrue(c.getName() + " is not seen", !Modifier.isPublic(seen) && !Modifier.isProtected(seen));
+            Check.dueTrue(c.getName() + " has at most twenty fields", c.getDeclaredFields().length <= 20);
             for (Method m : c.getDeclaredMethods()) {
-                for (String face : FACE) {
-                    Check.dueTrue(m.getName() + " isn't a name of the face", !face.startsWith(m.getName() + "/"));
-                }
+                dueNoNameOfTheFace(m);
             }
         }
     }
@@ -66,6 +91,13 @@ public final class FaceTest {
             boolean found = java.util.regex.Pattern.compile("\\b" + word).matcher(text).find();
             Check.dueTrue("no '" + word + "' in the source", !found);
         }
+        List<String> library =
+            List.of("import java.util.Arrays;", "import java.util.ArrayList;", "import java.util.List;");
+        for (String line : text.split("\n")) {
+            Check.dueTrue("only what rule 4 lists: " + line, !line.startsWith("import ") || library.contains(line));
+        }
+        Check.dueTrue("no other name of a package", !java.util.regex.Pattern.compile("(?m)^(?!import ).*\\bjavax?\\.")
+            .matcher(text).find());
         Check.dueTrue("no lambda", !text.contains("->"));
         Check.dueTrue("no method reference", !text.contains("::"));
     }
